@@ -1,0 +1,109 @@
+import java.io.IOException;
+import java.lang.reflect.Constructor;
+import java.lang.reflect.Executable;
+import java.lang.reflect.Field;
+import java.lang.reflect.Method;
+import java.lang.reflect.Modifier;
+import java.nio.file.Files;
+import java.nio.file.Path;
+import java.util.ArrayList;
+import java.util.List;
+import java.util.Set;
+import java.util.TreeSet;
+import java.util.regex.Matcher;
+import java.util.regex.Pattern;
+
+/** The face of the document, and what of LANGUAGE.md can be seen in the class and in its text. */
+public final class LanguageTest {
+    private static final Due DUE = new Due();
+
+    public static void main(String[] args) throws IOException {
+        face();
+        List<Class<?>> classes = new ArrayList<>(List.of(CityCups.class));
+        classes.addAll(List.of(CityCups.class.getDeclaredClasses()));
+        DUE.is("twelve classes at most", classes.size() <= 12, true);
+        for (Class<?> c : classes) {
+            members(c);
+        }
+        text(Files.readString(Path.of("src/main/java/CityCups.java")));
+        DUE.end("LanguageTest");
+    }
+
+    /** Every line of the document's face is there, and nothing else is public. */
+    private static void face() throws IOException {
+        String doc = Files.readString(Path.of("../shared/DOC.md"));
+        Matcher line = Pattern.compile("    public (int|boolean) (\\w+)\\((.*)\\);").matcher(doc);
+        Set<String> due = new TreeSet<>();
+        while (line.find()) {
+            due.add(line.group(1) + " " + line.group(2) + "(" + line.group(3).replaceAll(" \\w+(,|$)", "$1") + ")");
+        }
+        DUE.is("methods in the document", due.size(), 60);
+        Set<String> there = new TreeSet<>();
+        for (Method m : CityCups.class.getDeclaredMethods()) {
+            if (!Modifier.isPrivate(m.getModifiers())) {
+                String types = List.of(m.getParameterTypes()).toString().replaceAll("[\\[\\]]", "");
+                there.add(m.getReturnType() + " " + m.getName() + "(" + types + ")");
+            }
+        }
+        DUE.is("the face is " + there, there.equals(due), true);
+        for (Field f : CityCups.class.getDeclaredFields()) {
+            DUE.is("field " + f.getName(), Modifier.isPrivate(f.getModifiers()) || f.getName().equals("NONE"), true);
+        }
+        DUE.is("final", Modifier.isFinal(CityCups.class.getModifiers()), true);
+        DUE.is("constructors", CityCups.class.getDeclaredConstructors().length, 1);
+    }
+
+    private static void members(Class<?> c) {
+        boolean nested = c != CityCups.class;
+        DUE.is(c + " is static", !nested || Modifier.isStatic(c.getModifiers()), true);
+        DUE.is(c + " has no class inside", !nested || c.getDeclaredClasses().length == 0, true);
+        int fields = 0;
+        for (Field f : c.getDeclaredFields()) {
+            boolean fixed = Modifier.isStatic(f.getModifiers());
+            DUE.is(f + " is final", !fixed || Modifier.isFinal(f.getModifiers()), true);
+            fields += fixed ? 0 : 1;
+        }
+        DUE.is(c + " has twenty fields at most", fields <= 20, true);
+        Set<String> face = new TreeSet<>();
+        for (Method m : CityCups.class.getDeclaredMethods()) {
+            if (Modifier.isPublic(m.getModifiers())) {
+                face.add(m.getName());
+            }
+        }
+        for (Method m : c.getDeclaredMethods()) {
+            boolean own = nested || !Modifier.isPublic(m.getModifiers());
+            DUE.is(m + " bears no name of the face", !own || !face.contains(m.getName()), true);
+            parameters(m);
+        }
+        for (Constructor<?> made : c.getDeclaredConstructors()) {
+            parameters(made);
+        }
+    }
+
+    private static void parameters(Executable e) {
+        DUE.is(e + " takes seven at most", e.getParameterCount() <= 7, true);
+    }
+
+    private static void text(String source) {
+        String code = source.replaceAll("(?s)/\\*.*?\\*/", "").replaceAll("//[^\\n]*", "");
+        String[] forbidden = {"\\bthrow", "\\btry\\b", "\\bcatch\\b", "\\bfinally\\b", "\\bsynchronized\\b",
+            "\\bassert\\b", "->", "::", "Exact\\b", "\\bstatic \\{", "\\bpackage\\b", "\"\\s*\\+", "\\+\\s*\"",
+            "\\bvar\\b", "\\bvolatile\\b", "\\bdouble\\b", "\\bfloat\\b", "\\bObject\\b", "\\bSystem\\.(?!arraycopy)",
+            "[^\\x00-\\x7F]", "hashCode", "toString", "equals", "\\bRandom\\b", "\\bThread\\b"};
+        for (String word : forbidden) {
+            DUE.is("nothing of " + word, Pattern.compile(word).matcher(code).find(), false);
+        }
+        Matcher imports = Pattern.compile("import ([^;]+);").matcher(code);
+        while (imports.find()) {
+            DUE.is("import " + imports.group(1), imports.group(1).equals("java.util.Arrays"), true);
+        }
+        Matcher method = Pattern.compile("(?m)^( {4}| {8})\\S[^;={]*\\([^;{]*\\{\\n(.*\\n)*?\\1\\}$").matcher(code);
+        int methods = 0;
+        while (method.find()) {
+            methods++;
+            long lines = method.group().lines().count();
+            DUE.is("sixty lines at most: " + method.group().lines().findFirst().orElse(""), lines <= 60, true);
+        }
+        DUE.is("methods were found", methods > 100, true);
+    }
+}
