@@ -1,0 +1,212 @@
+import java.util.regex.Matcher;
+import java.util.regex.Pattern;
+
+/** Promises 14, 15 and 18 by chance: texts whose meaning is known as they are made, and broken ones. */
+public final class FaultTest {
+    private static final Due DUE = new Due();
+    private static final String[] FACTS = {"level", "age", "node", "trough", "day", "cost"};
+    private static final int[] VALUES = {40, 2, 1, 1, 7, 0};
+    private static final String[] WORKS = {"tap", "pipe", "stone", "trough", "name", "any"};
+    private static final Pattern TOKEN = Pattern.compile("[ \n]*([a-z]+|[0-9]+|[<>=;()])");
+
+    private static boolean value;
+
+    public static void main(String[] args) {
+        for (int run = 0; run < 3000; run++) {
+            meaning(run);
+        }
+        for (int run = 0; run < 6000; run++) {
+            broken(run);
+        }
+        DUE.end("FaultTest");
+    }
+
+    private static String blank() {
+        return new String[] {" ", " ", " ", "\n", "  "}[DUE.any(5)];
+    }
+
+    private static String gap() {
+        return new String[] {"", "", " ", "\n"}[DUE.any(4)];
+    }
+
+    /** A ONE with so many opens left; its value stands in the field then. */
+    private static String one(int opens) {
+        int kind = opens > 0 ? DUE.any(4) : 3;
+        if (kind == 0) {
+            String inner = one(opens - 1);
+            value = !value;
+            return "not" + blank() + inner;
+        }
+        if (kind == 1) {
+            return "(" + gap() + any(opens - 1) + gap() + ")";
+        }
+        int fact = DUE.any(6);
+        int number = Math.max(0, VALUES[fact] - 1 + DUE.any(3));
+        int sign = DUE.any(3);
+        value = sign == 0 ? VALUES[fact] < number : sign == 1 ? VALUES[fact] > number : VALUES[fact] == number;
+        String digits = DUE.any(4) == 0 ? String.format("%05d", number) : "" + number;
+        return FACTS[fact] + gap() + "<>=".charAt(sign) + gap() + digits;
+    }
+
+    private static String all(int opens) {
+        StringBuilder text = new StringBuilder(one(opens));
+        boolean so = value;
+        while (DUE.any(3) == 0) {
+            text.append(blank()).append("and").append(blank()).append(one(opens));
+            so &= value;
+        }
+        value = so;
+        return text.toString();
+    }
+
+    private static String any(int opens) {
+        StringBuilder text = new StringBuilder(all(opens));
+        boolean so = value;
+        while (DUE.any(3) == 0) {
+            text.append(blank()).append("or").append(blank()).append(all(opens));
+            so |= value;
+        }
+        value = so;
+        return text.toString();
+    }
+
+    private static CityCups asked() {
+        CityCups x = new CityCups();
+        x.node(-1);
+        x.node(0);
+        x.tap(1, 0, 713, true, 0);
+        x.day(7);
+        x.level(6, 40);
+        return x;
+    }
+
+    private static void meaning(int run) {
+        StringBuilder text = new StringBuilder();
+        boolean trust = run % 2 == 0;
+        int work = DUE.any(5);
+        int cost = 1 + DUE.any(3);
+        VALUES[5] = trust ? cost : 0;
+        int statements = DUE.any(4);
+        int due = -1;
+        for (int i = 0; i < statements; i++) {
+            boolean yes = DUE.any(2) == 0;
+            int of = DUE.any(6);
+            text.append(gap()).append(trust ? yes ? "pay" : "refuse" : yes ? "cap" : "spare");
+            text.append(trust ? blank() + WORKS[of] : "");
+            value = true;
+            text.append(DUE.any(4) == 0 ? "" : blank() + "if" + blank() + any(DUE.any(10)));
+            boolean tells = value && (!trust || of == 5 || of == work);
+            due = due < 0 && tells ? yes ? 1 : 0 : due;
+            text.append(gap()).append(";");
+        }
+        if (text.length() > 500) {
+            return;
+        }
+        CityCups x = asked();
+        if (trust) {
+            DUE.is("trust " + text, Due.trust(x, text.toString(), 1, 0), 0);
+            DUE.is("payers of " + text, x.payers(0, work, cost), Math.max(0, due));
+        } else {
+            DUE.is("cap " + text, Due.cap(x, text.toString()), statements);
+            DUE.is("runs of " + text, x.runs(0, 7, 7), due == 1 ? 2 : 0);
+        }
+        DUE.is("fault of " + text, x.fault(), -1);
+    }
+
+    private static void broken(int run) {
+        StringBuilder text = new StringBuilder();
+        boolean trust = run % 2 == 0;
+        for (int i = 0; i < 1 + DUE.any(3); i++) {
+            text.append(trust ? "pay " + WORKS[DUE.any(6)] : "cap").append(" if ").append(any(DUE.any(12))).append(";");
+        }
+        String[] bits = {";", "(", ")", " ", "not ", "and ", "or ", "1", "a", "<", "#", "cap", "pay", "if ", "level", "A"};
+        for (int i = 0; i < DUE.any(3); i++) {
+            int at = DUE.any(text.length());
+            if (DUE.any(2) == 0) {
+                text.insert(at, bits[DUE.any(bits.length)]);
+            } else {
+                text.deleteCharAt(at);
+            }
+        }
+        if (text.length() > 500) {
+            return;
+        }
+        int n = DUE.any(3) == 0 ? DUE.any(text.length() + 1) : text.length();
+        CityCups x = new CityCups();
+        Due.put(x, text.toString());
+        int got = trust ? x.trust(n, 0, 0) : x.cap(n);
+        int fault = faultOf(text.substring(0, n), trust);
+        DUE.is("fault of " + text.substring(0, n), x.fault(), fault);
+        DUE.is("faulty is " + text.substring(0, n), got == -1, fault >= 0);
+    }
+
+    /** Token by token with a row of what is open: no calls within calls, unlike the program. */
+    private static int faultOf(String text, boolean trust) {
+        Matcher token = TOKEN.matcher(text);
+        StringBuilder open = new StringBuilder();
+        String state = "start";
+        int statements = 0;
+        int at = 0;
+        while (true) {
+            while (at < text.length() && " \n".indexOf(text.charAt(at)) >= 0) {
+                at++;
+            }
+            if (at == text.length()) {
+                return state.equals("start") ? -1 : at;
+            }
+            token.region(at, text.length());
+            if (!token.lookingAt()) {
+                return at;
+            }
+            statements += state.equals("start") ? 1 : 0;
+            state = statements > 24 ? "" : next(state, token.group(1), trust, open);
+            if (state.isEmpty()) {
+                return at;
+            }
+            at = token.end();
+        }
+    }
+
+    private static String next(String state, String token, boolean trust, StringBuilder open) {
+        switch (state) {
+            case "start":
+                if (trust) {
+                    return token.matches("pay|refuse") ? "work" : "";
+                }
+                return token.matches("cap|spare") ? "head" : "";
+            case "work":
+                return token.matches("tap|pipe|stone|trough|name|any") ? "head" : "";
+            case "head":
+                return token.equals("if") ? "one" : token.equals(";") ? "start" : "";
+            case "one":
+                if (token.matches("not|\\(")) {
+                    open.append(token.charAt(0));
+                    return open.length() > 9 ? "" : "one";
+                }
+                return token.matches("level|age|node|trough|day|cost") ? "sign" : "";
+            case "sign":
+                return token.matches("[<>=]") ? "number" : "";
+            case "number":
+                return token.matches("[0-9]{1,5}") ? whole(open) : "";
+            default:
+                if (token.matches("and|or")) {
+                    return "one";
+                }
+                if (token.equals(";")) {
+                    return open.length() == 0 ? "start" : "";
+                }
+                if (token.equals(")") && open.length() > 0) {
+                    open.setLength(open.length() - 1);
+                    return whole(open);
+                }
+                return "";
+        }
+    }
+
+    private static String whole(StringBuilder open) {
+        while (open.length() > 0 && open.charAt(open.length() - 1) == 'n') {
+            open.setLength(open.length() - 1);
+        }
+        return "whole";
+    }
+}
