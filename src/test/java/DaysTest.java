@@ -167,6 +167,14 @@ public final class DaysTest {
         x.tap(0, 0, 400, true, 0);
         x.hard(0, 1);
         DUE.is("gone on day 0", x.gone(0), 0);
+        x.day(1);
+        x.job(0, 2, 1, 0);
+        x.done(0, 1);
+        DUE.is("renewed on day 1, gone ahead of that", x.gone(0), 0);
+        x = new CityCups();
+        x.node(-1);
+        x.tap(0, 0, 400, true, 0);
+        x.hard(0, 1);
         x.job(0, 2, 1, 0);
         x.done(0, 0);
         DUE.is("renewed on day 0", x.gone(0), 360);

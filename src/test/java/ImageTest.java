@@ -6,6 +6,7 @@ public final class ImageTest {
     public static void main(String[] args) {
         limits();
         allIsAsThen();
+        overAnotherCity();
         textsStay();
         coinIsAsThen();
         numbersGoOn();
@@ -196,6 +197,81 @@ public final class ImageTest {
         DUE.is("it has no trough", x.plant(2, 0, true), -1);
         DUE.is("node 2 is new again", x.node(-1), 2);
         DUE.is("it is a source", x.lead(2, 0), -1);
+    }
+
+    /** The image of a city is brought back over quite another one, with as many of each. */
+    private static void overAnotherCity() {
+        CityCups x = new CityCups();
+        x.image();
+        long[] then = new long[ASKED];
+        build(x, 3);
+        for (int i = 0; i < ASKED; i++) {
+            then[i] = ask(x, i);
+        }
+        long[] more = {x.round(7, 0), x.frost(7, 0, 9, 0), x.frost(7, 0, 9, 1), x.runs(0, 0, 3), x.late(1), x.gone(0)};
+        x.image();
+        x.back(0);
+        DUE.is("empty", x.count(0) + x.count(1) + x.count(2) + x.count(3) + x.count(6), 0);
+        build(x, 5);
+        x.back(1);
+        for (int i = 0; i < ASKED; i++) {
+            DUE.is("answer " + i + " of the other city", ask(x, i), then[i]);
+        }
+        long[] again = {x.round(7, 0), x.frost(7, 0, 9, 0), x.frost(7, 0, 9, 1), x.runs(0, 0, 3), x.late(1), x.gone(0)};
+        for (int i = 0; i < more.length; i++) {
+            DUE.is("more " + i, again[i], more[i]);
+        }
+        for (int steps = 0; steps < 12; steps++) {
+            CityCups twin = new CityCups();
+            build(twin, 3);
+            DUE.is("covered", x.covered(1, steps, 3, 3), twin.covered(1, steps, 3, 3));
+            DUE.is("stations", x.stations(1, steps, 3, 3, 0), twin.stations(1, steps, 3, 3, 0));
+            DUE.is("runs", x.runs(1, steps, 3), twin.runs(1, steps, 3));
+            DUE.is("not known", x.runs(1, steps, 1), twin.runs(1, steps, 1));
+            DUE.is("frost", x.frost(2, 0, 1 + steps, 0), twin.frost(2, 0, 1 + steps, 0));
+            DUE.is("drips", x.drips(1, steps, 3, 1), twin.drips(1, steps, 3, 1));
+            DUE.is("germs", x.germs(steps, 1, 3), twin.germs(steps, 1, 3));
+            DUE.is("lead", x.lead(2, 3), twin.lead(2, 3));
+            DUE.is("wears", x.wears(1, 90 * steps), twin.wears(1, 90 * steps));
+            DUE.is("late", x.late(0), twin.late(0));
+            DUE.is("council", x.council(0), twin.council(0));
+        }
+        DUE.is("paid as then", x.count(8), 3);
+        x.job(0, 0, 1, 0);
+        DUE.is("a job more is asked", x.council(2), 2);
+    }
+
+    private static void build(CityCups x, int v) {
+        x.node(-1);
+        x.node(0);
+        x.node(v == 3 ? 1 : 0);
+        for (int t = 0; t < 3; t++) {
+            x.tap((t + v) % 3, (t * v * 5) % 256, 30000 - 4000 * v + t, v == 3, t + v);
+            x.hard(t, 40 + v);
+        }
+        for (int h = 0; h < 3; h++) {
+            x.house((h * v * 7) % 256);
+            x.course((h * v * 3) % 256);
+        }
+        x.cold(0, v);
+        x.cold(3, 3 * v);
+        x.cold(5, 100 - v);
+        x.day(v - 2);
+        x.job(1, v == 3 ? 2 : 1, 10 + v, v - 2);
+        x.job(v == 3 ? 1 : 0, 2, 20 + v, 0);
+        x.job(v == 3 ? 0 : 2, v == 3 ? 0 : 2, 30 + v, 0);
+        if (v == 3) {
+            x.settle();
+        }
+        x.job(1, 2, 50 + v, 1);
+        x.shut(0, 0, v == 3);
+        x.flow(1, v - 2, 90 * v);
+        x.day(v);
+        x.done(1, v - 1);
+        x.shut(1, v - 1, v == 3);
+        x.shut(v == 3 ? 1 : 2, v, v != 3);
+        x.bottle(v == 3 ? 2 : 0, v - 1, true);
+        x.test(v == 3 ? 1 : 2, v - 1, v == 3);
     }
 
     private static void textsStay() {

@@ -16,6 +16,7 @@ public final class TellingTest {
         errors();
         colds();
         lastKnown();
+        lastKnownByChance();
         plantings();
         bans();
         DUE.end("TellingTest");
@@ -135,6 +136,42 @@ public final class TellingTest {
         DUE.is("day 999 as known by 999", x.runs(0, 999, 999), 1);
         DUE.is("day 8 as known by 9", x.runs(0, 8, 9), 0);
         DUE.is("the other tap", x.runs(1, 8, 20), 0);
+    }
+
+    /** Rows in any order of days and of when they are told, looked through plainly. */
+    private static void lastKnownByChance() {
+        for (int run = 0; run < 40; run++) {
+            CityCups x = Due.withTaps(3);
+            int rows = 1 + DUE.any(40);
+            int[][] told = new int[rows][];
+            int today = 0;
+            for (int i = 0; i < rows; i++) {
+                if (DUE.any(4) == 0 && x.day(today + 1)) {
+                    today++;
+                }
+                told[i] = new int[] {DUE.any(3), DUE.any(today + 1), DUE.any(2), today};
+                x.shut(told[i][0], told[i][1], told[i][2] == 1);
+                x.flow(0, told[i][1], i);
+            }
+            for (int ask = 0; ask < 60; ask++) {
+                int day = DUE.any(today + 2);
+                int known = DUE.any(today + 2);
+                int[] best = {-1, -1, -1, -1};
+                int flow = -1;
+                for (int i = 0; i < rows; i++) {
+                    int tap = told[i][0];
+                    if (told[i][1] <= day && told[i][3] <= known) {
+                        best[tap] = best[tap] < 0 || told[best[tap]][1] <= told[i][1] ? i : best[tap];
+                        flow = flow < 0 || told[flow][1] <= told[i][1] ? i : flow;
+                    }
+                }
+                for (int tap = 0; tap < 3; tap++) {
+                    int due = best[tap] < 0 ? 0 : told[best[tap]][2];
+                    DUE.is("run " + run + ": tap " + tap + " on " + day + " by " + known, x.runs(tap, day, known), due);
+                }
+                DUE.is("run " + run + ": flow on " + day + " by " + known, x.drips(0, day, known, 0), flow);
+            }
+        }
     }
 
     private static void plantings() {

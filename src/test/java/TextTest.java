@@ -225,6 +225,13 @@ public final class TextTest {
         DUE.is("level of a day with nothing", x.runs(0, 5, 9), 2);
         DUE.is("level not known yet", x.runs(0, 6, 8), 2);
         DUE.is("level known", x.runs(0, 6, 9), 0);
+        holds(x, "cost<99999", true);
+        holds(x, "cost>99999", false);
+        holds(x, "cost=99999", false);
+        holds(x, "level<99999", true);
+        holds(x, "level>99999", false);
+        holds(x, "cost<00001", true);
+        holds(x, "level=00040", true);
         Due.cap(x, "cap if age=1;");
         DUE.is("age: day 6", x.runs(1, 6, 9), 2);
         DUE.is("age: day 7", x.runs(1, 7, 9), 0);

@@ -11,6 +11,7 @@ public final class WalkTest {
         frostHours();
         horses();
         horsesThatCannot();
+        horseOfAllTaps();
         stationsByHand();
         wrongStations();
         roundsAgainstAllOrders();
@@ -125,6 +126,31 @@ public final class WalkTest {
         DUE.is("known -1", x.horse(0, 0, 0, 0, -1), -1);
         DUE.is("known 1000", x.horse(0, 0, 0, 0, 1000), -1);
         DUE.is("too far", x.horse(1, 2, 0, 0, 0), -1);
+        DUE.is("from 256, near", x.horse(256, 240, 30, 0, 0), -1);
+        DUE.is("to 256, near", x.horse(240, 256, 30, 0, 0), -1);
+        DUE.is("from -1, near", x.horse(-1, 0, 30, 0, 0), -1);
+        DUE.is("to -1, near", x.horse(0, -1, 30, 0, 0), -1);
+    }
+
+    private static void horseOfAllTaps() {
+        CityCups x = new CityCups();
+        x.node(-1);
+        for (int i = 1; i <= 15; i++) {
+            x.tap(0, i, 0, true, 0);
+        }
+        x.tap(0, 16 + 15, 0, true, 0);
+        for (int i = 15; i >= 8; i--) {
+            x.tap(0, 32 + i, 0, true, 0);
+        }
+        DUE.is("24 drinks", x.horse(0, 32 + 7, 1, 0, 0), 24);
+        DUE.is("the way back", x.horse(32 + 7, 0, 1, 0, 0), 24);
+        DUE.is("one step more", x.horse(0, 32 + 6, 1, 0, 0), -1);
+        for (int i = 0; i < 20; i++) {
+            x.course(1);
+        }
+        DUE.is("twenty stations", x.stations(1, 0, 0, 0, 0), 20);
+        DUE.is("the last of them", x.stations(1, 0, 0, 0, 20), 19);
+        DUE.is("each twenty", x.stations(20, 0, 0, 0, 1), 19);
     }
 
     private static void stationsByHand() {

@@ -88,6 +88,11 @@ public final class WaterTest {
         DUE.is("its own pipe", x.lead(3, 1), 0);
         DUE.is("no pipe by the test with lead", x.lead(2, 1), 2);
         DUE.is("not known yet", x.lead(1, 0), 1);
+        x = tree();
+        x.day(1);
+        x.test(1, 0, true);
+        DUE.is("with lead, not known yet", x.lead(1, 0), 2);
+        DUE.is("with lead, known", x.lead(1, 1), 1);
     }
 
     private static void leadThatIsSureByAnother() {
