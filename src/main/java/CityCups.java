@@ -44,6 +44,7 @@ public final class CityCups {
     private static final int RUNNING = 0;
     private static final int SHUT = 1;
     private static final int CAPPED = 2;
+    private static final int BEYOND_ALL = 1 << 30;
 
     private final State now;
     private final State[] images;
@@ -1697,7 +1698,7 @@ public final class CityCups {
 
         void share(int[] coin) {
             System.arraycopy(coin, 0, left, 0, MOST_TRUSTS);
-            best = Integer.MAX_VALUE;
+            best = BEYOND_ALL;
             bestCode = 0;
             decide(asked - 1, 0, 0);
         }
@@ -1855,7 +1856,7 @@ public final class CityCups {
                     }
                 }
             }
-            int round = Integer.MAX_VALUE;
+            int round = BEYOND_ALL;
             for (int last = 0; last < stops; last++) {
                 round = Math.min(round, shortest[all * MOST_ROUND + last] + stepsBetween(cells[last], cell));
             }
@@ -1867,7 +1868,7 @@ public final class CityCups {
             if (before == 0) {
                 return stepsBetween(cell, cells[last]);
             }
-            int fewest = Integer.MAX_VALUE;
+            int fewest = BEYOND_ALL;
             for (int stop = 0; stop < stops; stop++) {
                 if (isIn(before, stop)) {
                     int way = shortest[before * MOST_ROUND + stop] + stepsBetween(cells[stop], cells[last]);
@@ -1881,7 +1882,7 @@ public final class CityCups {
             gather(city, taps);
             System.arraycopy(chances, 0, cold, 0, HOURS);
             speed = Math.max(1, stepsAnHour);
-            best = Integer.MAX_VALUE;
+            best = BEYOND_ALL;
             goOn(0, 0, cell, 0, 0);
         }
 

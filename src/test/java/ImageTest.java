@@ -258,7 +258,7 @@ public final class ImageTest {
         x.cold(5, 100 - v);
         x.day(v - 2);
         x.job(1, v == 3 ? 2 : 1, 10 + v, v - 2);
-        x.job(v == 3 ? 1 : 0, 2, 20 + v, 0);
+        x.job(1, v == 3 ? 2 : 3, 20 + v, 0);
         x.job(v == 3 ? 0 : 2, v == 3 ? 0 : 2, 30 + v, 0);
         if (v == 3) {
             x.settle();
@@ -266,6 +266,7 @@ public final class ImageTest {
         x.job(1, 2, 50 + v, 1);
         x.shut(0, 0, v == 3);
         x.flow(1, v - 2, 90 * v);
+        x.flow(2, v - 2, 20 * v);
         x.day(v);
         x.done(1, v - 1);
         x.shut(1, v - 1, v == 3);

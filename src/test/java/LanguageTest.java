@@ -89,7 +89,8 @@ public final class LanguageTest {
         String[] forbidden = {"\\bthrow", "\\btry\\b", "\\bcatch\\b", "\\bfinally\\b", "\\bsynchronized\\b",
             "\\bassert\\b", "->", "::", "Exact\\b", "\\bstatic \\{", "\\bpackage\\b", "\"\\s*\\+", "\\+\\s*\"",
             "\\bvar\\b", "\\bvolatile\\b", "\\bdouble\\b", "\\bfloat\\b", "\\bObject\\b", "\\bSystem\\.(?!arraycopy)",
-            "[^\\x00-\\x7F]", "hashCode", "toString", "equals", "\\bRandom\\b", "\\bThread\\b"};
+            "[^\\x00-\\x7F]", "hashCode", "toString", "equals", "\\bInteger\\.(?!bitCount)", "\\bMath\\.(?!max|min|abs|floorMod)",
+            "\\bArrays\\.(?!copyOf|fill)", "\\bRandom\\b", "\\bThread\\b"};
         for (String word : forbidden) {
             DUE.is("nothing of " + word, Pattern.compile(word).matcher(code).find(), false);
         }

@@ -33,6 +33,14 @@ public final class NamesTest {
         DUE.is("no third", x.fits(0, 2), -1);
         DUE.is("k -2", x.fits(0, -2), -1);
         DUE.is("the other has none", x.fits(1, 0), -1);
+        x = Due.withTaps(1);
+        Due.worn(x, 0, "a.");
+        Due.donor(x, "bb");
+        DUE.is("a donor that comes later and does not fit", x.fits(0, -1), 0);
+        Due.donor(x, "ab");
+        DUE.is("one that fits", x.fits(0, 0), 1);
+        Due.donor(x, "ba");
+        DUE.is("one more that does not", x.fits(0, -1), 1);
     }
 
     private static void ways() {

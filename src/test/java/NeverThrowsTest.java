@@ -29,7 +29,54 @@ public final class NeverThrowsTest {
                 DUE.is(method.getName() + Arrays.toString(given), number(method, x, given), number(method, twin, given));
             }
         }
+        allFull();
         DUE.end("NeverThrowsTest");
+    }
+
+    /** As many of each as there can be, so that a row's end is where the questions look. */
+    private static void allFull() {
+        CityCups x = new CityCups();
+        for (int i = 0; i < 30; i++) {
+            x.node(Math.min(i, 24) - 1);
+            x.tap(Math.min(i, 23), i, 0, true, 1);
+            x.house(i);
+            x.course(i);
+        }
+        for (int i = 0; i < 80; i++) {
+            x.shut(i % 24, 0, i % 2 == 0);
+            x.test(i % 24, 0, true);
+            x.night(0, 1);
+            x.job(i % 24, 2, 1, 0);
+        }
+        DUE.is("expected", x.beside(0, 999, 999, 2), 12);
+        DUE.is("lead", x.lead(23, 0), 2);
+        DUE.is("late", x.late(-1), 0);
+        DUE.is("gone", x.gone(23), -1);
+        DUE.is("wears", x.wears(23, 999), 5);
+        DUE.is("council", x.council(0), 6);
+        DUE.is("done", x.count(7), 0);
+        DUE.is("paid", x.count(8), 0);
+        DUE.is("thirsty", x.thirsty(0, 0, 0, -1), 18);
+        DUE.is("mend", x.mend(0, 0, 0, 2), 6);
+        DUE.is("horse", x.horse(0, 255, 1, 0, 0), -1);
+        DUE.is("stations", x.stations(1, 1, 0, 0, 0), 20);
+        DUE.is("the last house", x.covered(29, 30, 0, 0) >= 0, true);
+        CityCups y = Due.withTaps(24);
+        for (int i = 0; i < 80; i++) {
+            y.fill(23, 0, 1);
+            y.burst(i % 24, 0);
+            y.hurt(i % 24, 0, 1);
+            y.damage(23, 0, 23);
+            y.cup(i % 24, 0, true);
+        }
+        y.ban(0);
+        DUE.is("filled", y.filled(-1, 0, 0, 0), 80);
+        DUE.is("busiest", y.busiest(0, 0, 0, 23), 22);
+        DUE.is("bursts", y.beside(0, 0, 0, 0), 40);
+        DUE.is("hurts", y.hurts(0, 0, 0, 2), 0);
+        DUE.is("watch", y.watch(1, 0, 1), 40);
+        DUE.is("banned", y.banned(0, 0, 23), 23);
+        DUE.is("round", y.round(255 << 16, 0), 0);
     }
 
     private static Object[] arguments(Method method, int call, int run) {
