@@ -180,18 +180,31 @@ public final class DaysTest {
         DUE.is("renewed on day 0", x.gone(0), 360);
     }
 
+    private static CityCups stone(int ahead, int hard, int[] done) {
+        CityCups x = new CityCups();
+        x.node(-1);
+        x.tap(0, 0, ahead, true, 0);
+        x.hard(0, hard);
+        x.day(999);
+        for (int day : done) {
+            x.done(x.job(0, 2, 1, 0), day);
+        }
+        return x;
+    }
+
     private static void goneAgainstWears() {
         for (int run = 0; run < 120; run++) {
-            CityCups x = new CityCups();
-            x.node(-1);
-            x.tap(0, 0, DUE.any(900), true, 0);
-            x.hard(0, 1 + DUE.any(2));
-            x.day(999);
-            for (int i = 0; i < DUE.any(5); i++) {
-                x.done(x.job(0, 2, 1, 0), DUE.any(1000));
+            int ahead = DUE.any(900);
+            int hard = 1 + DUE.any(2);
+            int[] done = new int[DUE.any(5)];
+            for (int i = 0; i < done.length; i++) {
+                done[i] = DUE.any(1000);
             }
+            CityCups x = stone(ahead, hard, done);
             int first = -1;
             for (int day = 999; day >= 0; day--) {
+                // An object is for 512 calls.
+                x = day % 400 == 0 ? stone(ahead, hard, done) : x;
                 first = x.wears(0, day) == 100 ? day : first;
             }
             DUE.is("run " + run + ": gone", x.gone(0), first);

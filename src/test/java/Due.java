@@ -35,15 +35,24 @@ final class Due {
         return (int) Math.floorMod(seed >>> 33, (long) many);
     }
 
-    /** Puts a text on the (empty) tape, filled up with blanks: its length. */
-    static int put(CityCups x, String text) {
+    /** A text as the numbers of so many feeds, filled up with blanks. */
+    static int[][] feeds(String text) {
         byte[] bytes = text.getBytes(StandardCharsets.ISO_8859_1);
         byte[] full = Arrays.copyOf(bytes, (bytes.length + 19) / 20 * 20);
         Arrays.fill(full, bytes.length, full.length, (byte) ' ');
-        for (int i = 0; i < full.length; i += 20) {
-            x.feed(four(full, i), four(full, i + 4), four(full, i + 8), four(full, i + 12), four(full, i + 16));
+        int[][] feeds = new int[full.length / 20][5];
+        for (int i = 0; i < full.length; i += 4) {
+            feeds[i / 20][i % 20 / 4] = four(full, i);
         }
-        return bytes.length;
+        return feeds;
+    }
+
+    /** Puts a text on the (empty) tape, filled up with blanks: its length. */
+    static int put(CityCups x, String text) {
+        for (int[] f : feeds(text)) {
+            x.feed(f[0], f[1], f[2], f[3], f[4]);
+        }
+        return text.length();
     }
 
     private static int four(byte[] bytes, int at) {

@@ -13,6 +13,10 @@ public final class ExtremeTest {
     private static final int[] NUMBERS = {Integer.MIN_VALUE, -1, 0, 1, Integer.MAX_VALUE};
     private static final int[] MORE = {Integer.MIN_VALUE + 1, -2, 2, 32, 999, Integer.MAX_VALUE - 1, 1 << 24, 1 << 30};
 
+    private static CityCups x;
+    private static Plain y;
+    private static int calls;
+
     public static void main(String[] args) throws Exception {
         Method[] methods = Arrays.stream(CityCups.class.getDeclaredMethods())
                 .filter(m -> Modifier.isPublic(m.getModifiers()))
@@ -26,10 +30,6 @@ public final class ExtremeTest {
         }
         DUE.end("ExtremeTest");
     }
-
-    private static CityCups x;
-    private static Plain y;
-    private static int calls;
 
     private static void mixtures(Method method, int[] numbers) throws Exception {
         Method plain = Plain.class.getDeclaredMethod(method.getName(), method.getParameterTypes());

@@ -1,13 +1,9 @@
-import java.util.regex.Matcher;
-import java.util.regex.Pattern;
-
 /** Promises 14, 15 and 18 by chance: texts whose meaning is known as they are made, and broken ones. */
 public final class FaultTest {
     private static final Due DUE = new Due();
     private static final String[] FACTS = {"level", "age", "node", "trough", "day", "cost"};
     private static final int[] VALUES = {40, 2, 1, 1, 7, 0};
     private static final String[] WORKS = {"tap", "pipe", "stone", "trough", "name", "any"};
-    private static final Pattern TOKEN = Pattern.compile("[ \n]*([a-z]+|[0-9]+|[<>=;()])");
 
     private static boolean value;
 
@@ -133,80 +129,14 @@ public final class FaultTest {
         }
         int n = DUE.any(3) == 0 ? DUE.any(text.length() + 1) : text.length();
         CityCups x = new CityCups();
+        Plain y = new Plain();
         Due.put(x, text.toString());
+        for (int[] f : Due.feeds(text.toString())) {
+            y.feed(f[0], f[1], f[2], f[3], f[4]);
+        }
         int got = trust ? x.trust(n, 0, 0) : x.cap(n);
-        int fault = faultOf(text.substring(0, n), trust);
-        DUE.is("fault of " + text.substring(0, n), x.fault(), fault);
-        DUE.is("faulty is " + text.substring(0, n), got == -1, fault >= 0);
-    }
-
-    /** Token by token with a row of what is open: no calls within calls, unlike the program. */
-    private static int faultOf(String text, boolean trust) {
-        Matcher token = TOKEN.matcher(text);
-        StringBuilder open = new StringBuilder();
-        String state = "start";
-        int statements = 0;
-        int at = 0;
-        while (true) {
-            while (at < text.length() && " \n".indexOf(text.charAt(at)) >= 0) {
-                at++;
-            }
-            if (at == text.length()) {
-                return state.equals("start") ? -1 : at;
-            }
-            token.region(at, text.length());
-            if (!token.lookingAt()) {
-                return at;
-            }
-            statements += state.equals("start") ? 1 : 0;
-            state = statements > 24 ? "" : next(state, token.group(1), trust, open);
-            if (state.isEmpty()) {
-                return at;
-            }
-            at = token.end();
-        }
-    }
-
-    private static String next(String state, String token, boolean trust, StringBuilder open) {
-        switch (state) {
-            case "start":
-                if (trust) {
-                    return token.matches("pay|refuse") ? "work" : "";
-                }
-                return token.matches("cap|spare") ? "head" : "";
-            case "work":
-                return token.matches("tap|pipe|stone|trough|name|any") ? "head" : "";
-            case "head":
-                return token.equals("if") ? "one" : token.equals(";") ? "start" : "";
-            case "one":
-                if (token.matches("not|\\(")) {
-                    open.append(token.charAt(0));
-                    return open.length() > 9 ? "" : "one";
-                }
-                return token.matches("level|age|node|trough|day|cost") ? "sign" : "";
-            case "sign":
-                return token.matches("[<>=]") ? "number" : "";
-            case "number":
-                return token.matches("[0-9]{1,5}") ? whole(open) : "";
-            default:
-                if (token.matches("and|or")) {
-                    return "one";
-                }
-                if (token.equals(";")) {
-                    return open.length() == 0 ? "start" : "";
-                }
-                if (token.equals(")") && open.length() > 0) {
-                    open.setLength(open.length() - 1);
-                    return whole(open);
-                }
-                return "";
-        }
-    }
-
-    private static String whole(StringBuilder open) {
-        while (open.length() > 0 && open.charAt(open.length() - 1) == 'n') {
-            open.setLength(open.length() - 1);
-        }
-        return "whole";
+        DUE.is("answer of " + text.substring(0, n), got, trust ? y.trust(n, 0, 0) : y.cap(n));
+        DUE.is("fault of " + text.substring(0, n), x.fault(), y.fault());
+        DUE.is("faulty is " + text.substring(0, n), got == -1, x.fault() >= 0);
     }
 }

@@ -22,6 +22,7 @@ public final class ModelTest {
     private static int calls;
     private static int lastDay;
     private static int far;
+    private static int written;
 
     public static void main(String[] args) throws Exception {
         given();
@@ -96,8 +97,6 @@ public final class ModelTest {
     private static long number(Object answer) {
         return answer instanceof Boolean ? (Boolean) answer ? 1 : 0 : (Integer) answer;
     }
-
-    private static int written;
 
     /** Feeds a text for the call, as it should be or a little broken. */
     private static void write(String name) throws Exception {

@@ -11,6 +11,7 @@ public final class NamesTest {
         waysOfFew();
         goneTaps();
         full();
+        chain();
         againstAllWays();
         DUE.end("NamesTest");
     }
@@ -107,7 +108,7 @@ public final class NamesTest {
         DUE.is("count(24)", x.count(24), 2);
     }
 
-    /** A chain in which each donor that is taken pushes the next one on. */
+    /** As many names as DONORS, each of which fits all; and one more. */
     private static void full() {
         CityCups x = Due.withTaps(24);
         for (int i = 0; i < 20; i++) {
@@ -122,6 +123,30 @@ public final class NamesTest {
         Due.worn(x, 20, "............");
         DUE.is("one too many", x.could(19, 0), 0);
         DUE.is("one too many", x.remembers(20), -2);
+    }
+
+    /** Each name fits two DONORS, one behind the other; the last name takes the first DONOR, and moves all others on. */
+    private static void chain() {
+        CityCups x = Due.withTaps(24);
+        for (int i = 0; i < 20; i++) {
+            Due.donor(x, i == 19 ? "zz" : "" + (char) ('a' + i / 2) + (char) ('a' + (i + 1) / 2));
+        }
+        for (int i = 0; i < 18; i++) {
+            Due.worn(x, i, i % 2 == 0 ? (char) ('a' + i / 2) + "." : "." + (char) ('a' + (i + 1) / 2));
+            DUE.is("two fit " + i, x.fits(i, -1), 2);
+            DUE.is("the second of them", x.fits(i, 1), i + 1);
+        }
+        Due.worn(x, 23, "zz");
+        DUE.is("several could", x.remembers(0), -1);
+        Due.worn(x, 22, "aa");
+        for (int i = 0; i < 18; i++) {
+            DUE.is("moved on " + i, x.remembers(i), i + 1);
+            DUE.is("it can't be the first", x.could(i, i), 0);
+        }
+        DUE.is("the last name", x.remembers(22), 0);
+        DUE.is("one beside the chain", x.remembers(23), 19);
+        Due.worn(x, 21, "i.");
+        DUE.is("none is left for one more", x.remembers(23), -2);
     }
 
     private static void againstAllWays() {
