@@ -18,7 +18,7 @@ public final class NeverThrowsTest {
         for (int run = 0; run < 400; run++) {
             CityCups x = new CityCups();
             CityCups twin = new CityCups();
-            for (int call = 0; call < 510; call++) {
+            for (int call = 0; call < 505; call++) {
                 Method method = methods[DUE.any(methods.length)];
                 if (DUE.any(6) == 0) {
                     String text = TEXTS[DUE.any(TEXTS.length)];
