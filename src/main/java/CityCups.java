@@ -36,9 +36,15 @@ public final class CityCups {
     private static final int HOURS = 24;
     private static final int YEAR = 360;
     private static final int WORKS = 5;
-    private static final int ANY_WORK = 5;
     private static final int STONE = 2;
-    private static final int FACTS = 6;
+    private static final int TROUGH = 3;
+    private static final int ANY_WORK = 5;
+    private static final int LEVEL = 6;
+    private static final int AGE = 7;
+    private static final int NODE = 8;
+    private static final int DAY = 9;
+    private static final int COST = 10;
+    private static final int FACTS = 11;
     private static final int HARD_AT_FIRST = 50;
     private static final int HARDEST = 99;
     private static final int RUNNING = 0;
@@ -380,7 +386,7 @@ public final class CityCups {
                 int above = now.city.aboveTap(bottles.who[i]);
                 boolean bad = bottles.what[i] != 0;
                 nodes &= bad ? above : ~above;
-                any |= bad;
+                any = any || bad;
             }
         }
         return any ? nodes : 0;
@@ -794,12 +800,12 @@ public final class CityCups {
     private void gatherFacts(int tap, int day, int known, int cost) {
         int place = now.diary.levels.latest(0, day, known);
         boolean trough = isIn(now.city.troughs, tap) && !now.diary.plantings.isSo(tap, day, known);
-        facts[0] = place == NONE ? 100 : now.diary.levels.what[place];
-        facts[1] = (day + now.city.aheads[tap]) / YEAR;
-        facts[2] = now.city.tapNodes[tap];
-        facts[3] = trough ? 1 : 0;
-        facts[4] = day;
-        facts[5] = cost;
+        facts[LEVEL] = place == NONE ? 100 : now.diary.levels.what[place];
+        facts[AGE] = (day + now.city.aheads[tap]) / YEAR;
+        facts[NODE] = now.city.tapNodes[tap];
+        facts[TROUGH] = trough ? 1 : 0;
+        facts[DAY] = day;
+        facts[COST] = cost;
     }
 
     private boolean isCapped(int tap, int day, int known) {
@@ -1387,19 +1393,31 @@ public final class CityCups {
 
     /** The tape, and how its bytes are read as texts; the fault's place is always where the token at hand begins. */
     private static final class Reader {
-        private static final int END = 0;
-        private static final int WORD = 1;
-        private static final int NUMBER = 2;
-        private static final int SIGN = 3;
-        private static final int WRONG = 4;
+        /** A word's symbol is its place among these; works and facts come first, so they need no numbers of their own. */
+        private static final String WORDS =
+                "tap pipe stone trough name any level age node day cost if or and not cap spare pay refuse ";
+        private static final int IF = 11;
+        private static final int OR = 12;
+        private static final int AND = 13;
+        private static final int NOT = 14;
+        private static final int CAP = 15;
+        private static final int SPARE = 16;
+        private static final int PAY = 17;
+        private static final int REFUSE = 18;
+        private static final int UNKNOWN = 19;
+        private static final int NUMBER = 20;
+        private static final int END = 21;
+        private static final int SIGN = 100;
 
         final int[] tape = new int[MOST_BYTES];
         int size;
         int start;
-        private int length;
-        private int next;
-        private int kind;
-        private int statements;
+        private int symbol;
+        private int place;
+        private int tokens;
+        private final int[] starts = new int[MOST_BYTES + 1];
+        private final int[] lengths = new int[MOST_BYTES + 1];
+        private final int[] symbols = new int[MOST_BYTES + 1];
         private int codeSize;
         private final int[] verdicts = new int[MOST_STATEMENTS];
         private final int[] works = new int[MOST_STATEMENTS];
@@ -1435,12 +1453,12 @@ public final class CityCups {
 
         /** The text's law, or null with the fault's place in start. */
         Law readLaw(int n, boolean ofTrust) {
-            length = n;
-            next = 0;
-            statements = 0;
+            cut(n);
             codeSize = 0;
+            place = NONE;
             readToken();
-            for (int i = 0; i <= MOST_STATEMENTS && kind != END; i++) {
+            int statements = 0;
+            for (int i = 0; i <= MOST_STATEMENTS && symbol != END; i++) {
                 if (i == MOST_STATEMENTS || !readStatement(i, ofTrust)) {
                     return null;
                 }
@@ -1450,27 +1468,28 @@ public final class CityCups {
                     Arrays.copyOf(ends, statements), Arrays.copyOf(code, codeSize));
         }
 
-        private boolean readStatement(int place, boolean ofTrust) {
-            verdicts[place] = verdictOf(ofTrust);
-            if (verdicts[place] == NONE) {
+        private boolean readStatement(int statement, boolean ofTrust) {
+            boolean holds = symbol == (ofTrust ? PAY : CAP);
+            if (!holds && symbol != (ofTrust ? REFUSE : SPARE)) {
                 return false;
             }
+            verdicts[statement] = holds ? 1 : 0;
+            works[statement] = ANY_WORK;
             readToken();
-            works[place] = ANY_WORK;
             if (ofTrust) {
-                works[place] = workAtHand();
-                if (works[place] == NONE) {
+                if (symbol > ANY_WORK) {
                     return false;
                 }
+                works[statement] = symbol;
                 readToken();
             }
-            if (isWord("if")) {
+            if (symbol == IF) {
                 readToken();
                 if (!readAny(0)) {
                     return false;
                 }
             }
-            ends[place] = codeSize;
+            ends[statement] = codeSize;
             if (!isSign(';')) {
                 return false;
             }
@@ -1478,18 +1497,11 @@ public final class CityCups {
             return true;
         }
 
-        private int verdictOf(boolean ofTrust) {
-            if (isWord(ofTrust ? "pay" : "cap")) {
-                return 1;
-            }
-            return isWord(ofTrust ? "refuse" : "spare") ? 0 : NONE;
-        }
-
         private boolean readAny(int open) {
             if (!readAll(open)) {
                 return false;
             }
-            for (int i = 0; i < MOST_BYTES && isWord("or"); i++) {
+            for (int i = 0; i < MOST_BYTES && symbol == OR; i++) {
                 readToken();
                 if (!readAll(open)) {
                     return false;
@@ -1503,7 +1515,7 @@ public final class CityCups {
             if (!readOne(open)) {
                 return false;
             }
-            for (int i = 0; i < MOST_BYTES && isWord("and"); i++) {
+            for (int i = 0; i < MOST_BYTES && symbol == AND; i++) {
                 readToken();
                 if (!readOne(open)) {
                     return false;
@@ -1514,7 +1526,7 @@ public final class CityCups {
         }
 
         private boolean readOne(int open) {
-            boolean not = isWord("not");
+            boolean not = symbol == NOT;
             if (!not && !isSign('(')) {
                 return readComparison();
             }
@@ -1537,8 +1549,8 @@ public final class CityCups {
         }
 
         private boolean readComparison() {
-            int word = factAtHand();
-            if (word == NONE) {
+            int word = symbol;
+            if (word != TROUGH && (word < LEVEL || word > COST)) {
                 return false;
             }
             readToken();
@@ -1547,7 +1559,7 @@ public final class CityCups {
                 return false;
             }
             readToken();
-            if (kind != NUMBER || next - start > MOST_DIGITS) {
+            if (symbol != NUMBER || lengths[place] > MOST_DIGITS) {
                 return false;
             }
             emit(Law.comparison(word, sign, numberAtHand()));
@@ -1562,103 +1574,85 @@ public final class CityCups {
             }
         }
 
-        private int workAtHand() {
-            if (isWord("tap")) {
-                return 0;
-            }
-            if (isWord("pipe")) {
-                return 1;
-            }
-            if (isWord("stone")) {
-                return STONE;
-            }
-            if (isWord("trough")) {
-                return 3;
-            }
-            if (isWord("name")) {
-                return 4;
-            }
-            return isWord("any") ? ANY_WORK : NONE;
-        }
-
-        private int factAtHand() {
-            if (isWord("level")) {
-                return 0;
-            }
-            if (isWord("age")) {
-                return 1;
-            }
-            if (isWord("node")) {
-                return 2;
-            }
-            if (isWord("trough")) {
-                return 3;
-            }
-            if (isWord("day")) {
-                return 4;
-            }
-            return isWord("cost") ? 5 : NONE;
-        }
-
         private int numberAtHand() {
             int number = 0;
-            for (int i = start; i < next && i < MOST_BYTES; i++) {
-                number = number * 10 + tape[i] - '0';
+            for (int i = 0; i < lengths[place] && start + i < MOST_BYTES; i++) {
+                number = number * 10 + tape[start + i] - '0';
             }
             return number;
         }
 
-        private boolean isWord(String word) {
-            if (kind != WORD || next - start != word.length()) {
-                return false;
-            }
-            for (int i = 0; i < word.length(); i++) {
-                if (tape[start + i] != word.charAt(i)) {
-                    return false;
-                }
-            }
-            return true;
-        }
-
         private boolean isSign(int sign) {
-            return kind == SIGN && tape[start] == sign;
+            return symbol == SIGN + sign;
         }
 
         private void readToken() {
-            start = next;
-            while (start < length && (tape[start] == ' ' || tape[start] == '\n')) {
-                start++;
+            if (place < tokens) {
+                place++;
             }
-            next = start;
-            kind = kindAt(start);
-            if (kind == END) {
-                return;
-            }
-            next++;
-            if (kind == WORD || kind == NUMBER) {
-                while (next < length && kindAt(next) == kind) {
-                    next++;
-                }
-            }
+            start = starts[place];
+            symbol = symbols[place];
         }
 
-        private int kindAt(int place) {
-            if (place >= length) {
-                return END;
+        /** All tokens ahead of the reading: what they are doesn't hang on where they stand. */
+        private void cut(int n) {
+            tokens = 0;
+            boolean wasWord = false;
+            boolean wasNumber = false;
+            for (int i = 0; i < n && i < MOST_BYTES; i++) {
+                boolean isWord = isLetter(tape[i]);
+                boolean isNumber = isDigit(tape[i]);
+                if (tokens > 0 && ((isWord && wasWord) || (isNumber && wasNumber))) {
+                    lengths[tokens - 1]++;
+                } else if (tape[i] != ' ' && tape[i] != '\n') {
+                    starts[tokens] = i;
+                    lengths[tokens] = 1;
+                    tokens++;
+                }
+                wasWord = isWord;
+                wasNumber = isNumber;
             }
-            int sign = tape[place];
-            if (isLetter(sign)) {
-                return WORD;
+            for (int token = 0; token < tokens; token++) {
+                symbols[token] = symbolOf(starts[token], lengths[token]);
             }
-            if (sign >= '0' && sign <= '9') {
-                return NUMBER;
+            starts[tokens] = n;
+            lengths[tokens] = 0;
+            symbols[tokens] = END;
+        }
+
+        private int symbolOf(int from, int length) {
+            if (isLetter(tape[from])) {
+                return wordOf(from, length);
             }
-            boolean known = sign == '<' || sign == '>' || sign == '=' || sign == ';' || sign == '(' || sign == ')';
-            return known ? SIGN : WRONG;
+            return isDigit(tape[from]) ? NUMBER : SIGN + tape[from];
+        }
+
+        private int wordOf(int from, int length) {
+            int word = 0;
+            int behind = 0;
+            boolean alike = true;
+            for (int i = 0; i < WORDS.length(); i++) {
+                if (WORDS.charAt(i) != ' ') {
+                    alike = alike && behind < length && tape[from + behind] == WORDS.charAt(i);
+                    behind++;
+                } else {
+                    if (alike && behind == length) {
+                        return word;
+                    }
+                    word++;
+                    behind = 0;
+                    alike = true;
+                }
+            }
+            return UNKNOWN;
         }
 
         private static boolean isLetter(int sign) {
             return sign >= 'a' && sign <= 'z';
+        }
+
+        private static boolean isDigit(int sign) {
+            return sign >= '0' && sign <= '9';
         }
     }
 

@@ -8,7 +8,9 @@ import java.nio.file.Files;
 import java.nio.file.Path;
 import java.util.ArrayList;
 import java.util.List;
+import java.util.Map;
 import java.util.Set;
+import java.util.TreeMap;
 import java.util.TreeSet;
 import java.util.regex.Matcher;
 import java.util.regex.Pattern;
@@ -99,12 +101,60 @@ public final class LanguageTest {
             DUE.is("import " + imports.group(1), imports.group(1).equals("java.util.Arrays"), true);
         }
         Matcher method = Pattern.compile("(?m)^( {4}| {8})\\S[^;={]*\\([^;{]*\\{\\n(.*\\n)*?\\1\\}$").matcher(code);
-        int methods = 0;
+        Map<String, String> bodies = new TreeMap<>();
         while (method.find()) {
-            methods++;
-            long lines = method.group().lines().count();
-            DUE.is("sixty lines at most: " + method.group().lines().findFirst().orElse(""), lines <= 60, true);
+            String head = method.group().lines().findFirst().orElse("");
+            DUE.is("sixty lines at most: " + head, method.group().lines().count() <= 60, true);
+            // Methods that share a name stand as one here: paths may be told too long, none too short.
+            String body = method.group().substring(head.length()).replaceAll("\\b(Arrays|Math|Integer|System)\\.\\w+", "");
+            bodies.merge(head.replaceAll("\\(.*", "").replaceAll(".*\\W", ""), body, String::concat);
         }
-        DUE.is("methods were found", methods > 100, true);
+        DUE.is("methods were found", bodies.size() > 100, true);
+        depth(bodies);
+        logic(code);
+    }
+
+    /** No calls are open, none of them twice, more than eight deep; so what is recursion goes no deeper at its first round. */
+    private static void depth(Map<String, String> bodies) {
+        Map<String, List<String>> calls = new TreeMap<>();
+        for (Map.Entry<String, String> one : bodies.entrySet()) {
+            List<String> called = new ArrayList<>();
+            Matcher call = Pattern.compile("\\b(\\w+)\\(").matcher(one.getValue());
+            while (call.find()) {
+                if (bodies.containsKey(call.group(1))) {
+                    called.add(call.group(1));
+                }
+            }
+            calls.put(one.getKey(), called);
+        }
+        int deepest = 0;
+        for (String name : bodies.keySet()) {
+            int deep = deepest(name, calls, new ArrayList<>());
+            deepest = Math.max(deepest, deep);
+            DUE.is("eight deep at most: " + name + " goes " + deep, deep <= 8, true);
+        }
+        DUE.is("calls were found", deepest >= 5, true);
+    }
+
+    private static int deepest(String name, Map<String, List<String>> calls, List<String> open) {
+        if (open.contains(name)) {
+            return 0;
+        }
+        open.add(name);
+        int most = 0;
+        for (String called : calls.get(name)) {
+            most = Math.max(most, deepest(called, calls, open));
+        }
+        open.remove(name);
+        return most + 1;
+    }
+
+    /** Of what is true or false there are && and || alone; masks are for numbers. */
+    private static void logic(String code) {
+        Matcher flag = Pattern.compile("\\bboolean (\\w+)\\b(?!\\()").matcher(code);
+        while (flag.find()) {
+            boolean masked = Pattern.compile("\\b" + flag.group(1) + " [|&^]=? ").matcher(code).find();
+            DUE.is("no mask of " + flag.group(1), masked, false);
+        }
     }
 }
