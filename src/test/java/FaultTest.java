@@ -14,7 +14,59 @@ public final class FaultTest {
         for (int run = 0; run < 6000; run++) {
             broken(run);
         }
+        everyTokenEverywhere();
         DUE.end("FaultTest");
+    }
+
+    private static final String CONDITION = "not ( level age node trough day cost";
+    private static final String EIGHT = "not ( not ( not ( not (";
+
+    /** What has been read, and every token with which such a text goes on (0: a number): of a cap, of a trust, of both. */
+    private static final String[][] CAP_GOES_ON = {{"", "cap spare"}, {"cap", "if ;"}, {"spare", "if ;"},
+        {"cap;", "cap spare"}, {"spare if day > 3 ;", "cap spare"}};
+    private static final String[][] TRUST_GOES_ON = {{"", "pay refuse"}, {"pay", "tap pipe stone trough name any"},
+        {"refuse", "tap pipe stone trough name any"}, {"pay any", "if ;"}, {"refuse trough", "if ;"},
+        {"pay tap;", "pay refuse"}, {"refuse any if day > 3 ;", "pay refuse"}};
+    private static final String[][] BOTH_GO_ON = {{"", CONDITION}, {"not", CONDITION}, {"(", CONDITION},
+        {"level < 5 or", CONDITION}, {"level < 5 and", CONDITION}, {"level", "< > ="}, {"trough", "< > ="},
+        {"cost", "< > ="}, {"day <", "0"}, {"age >", "0"}, {"node =", "0"}, {"level < 5", "and or ;"},
+        {"not level < 5", "and or ;"}, {"( level < 5", "and or )"}, {"( level < 5 )", "and or ;"},
+        {"not ( ( level < 5 )", "and or )"}, {"age > 1 or day = 1 and cost < 1", "and or ;"},
+        {EIGHT, CONDITION},
+        {EIGHT + " not", "level age node trough day cost"}, {"( ( ( ( ( ( ( ( (", "level age node trough day cost"},
+        {"not not not not not not not not not", "level age node trough day cost"}};
+
+    private static final String[] TOKENS = {"cap", "spare", "pay", "refuse", "if", "and", "or", "not", "(", ")", ";",
+        "<", ">", "=", "level", "age", "node", "trough", "day", "cost", "tap", "pipe", "stone", "name", "any", "0",
+        "99999", "00000", "100000", "000000", "a", "z", "ca", "caps", "lev", "levels", "andor", "work", "Cap", "LEVEL",
+        "+", "-", ",", ".", "\t", "\r", "\u0000", "\u0001", "\u0005", "\u0015", "\u001f", "!", "/", ":", "?", "@", "[",
+        "`", "{", "\u007f", "\u0080", "\u00a0", "\u00e9", "\u00ff"};
+
+    private static void everyTokenEverywhere() {
+        for (String[] state : CAP_GOES_ON) {
+            everyToken(false, state[0], state[1]);
+        }
+        for (String[] state : TRUST_GOES_ON) {
+            everyToken(true, state[0], state[1]);
+        }
+        for (String[] state : BOTH_GO_ON) {
+            everyToken(false, "cap if " + state[0], state[1]);
+            everyToken(true, "pay any if " + state[0], state[1]);
+        }
+    }
+
+    private static void everyToken(boolean ofTrust, String read, String goesOn) {
+        for (String token : TOKENS) {
+            boolean number = token.matches("\\d{1,5}");
+            boolean taken = (" " + goesOn + " ").contains(number ? " 0 " : " " + token + " ");
+            String before = read.isEmpty() ? "" : read + " ";
+            String text = before + token + "\n";
+            boolean whole = taken && token.equals(";");
+            CityCups x = Due.withTaps(2);
+            int answer = ofTrust ? Due.trust(x, text, 3, 5) : Due.cap(x, text);
+            DUE.is("'" + text + "' has a fault", answer == -1, !whole);
+            DUE.is("fault of '" + text + "'", x.fault(), whole ? -1 : taken ? text.length() : before.length());
+        }
     }
 
     private static String blank() {
