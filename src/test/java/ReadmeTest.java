@@ -14,7 +14,6 @@ import java.util.TreeSet;
 import java.util.regex.Matcher;
 import java.util.regex.Pattern;
 import java.util.stream.Stream;
-import javax.tools.ToolProvider;
 
 /** README.md: its program answers as it says; its tables tell every call, what it takes and where it's refused. */
 public final class ReadmeTest {
@@ -113,8 +112,8 @@ public final class ReadmeTest {
         try {
             Path file = out.resolve("Page.java");
             Files.writeString(file, source);
-            int failed = ToolProvider.getSystemJavaCompiler().run(null, null, null, "-classpath",
-                System.getProperty("java.class.path"), "-d", out.toString(), file.toString());
+            int failed = new ProcessBuilder("javac", "-classpath", System.getProperty("java.class.path"), "-d",
+                out.toString(), file.toString()).inheritIO().start().waitFor();
             if (failed != 0) {
                 return NOT_COMPILED;
             }
