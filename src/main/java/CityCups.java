@@ -1393,7 +1393,7 @@ public final class CityCups {
 
     /** The tape, and how its bytes are read as texts; the fault's place is always where the token at hand begins. */
     private static final class Reader {
-        /** A word's symbol is its place among these; works and facts come first, so they need no numbers of their own. */
+        /** A word's symbol is its place among these; works come first, so that the symbol is the work's number. */
         private static final String WORDS =
                 "tap pipe stone trough name any level age node day cost if or and not cap spare pay refuse ";
         private static final int IF = 11;

@@ -114,7 +114,7 @@ public final class LanguageTest {
         logic(code);
     }
 
-    /** No calls are open, none of them twice, more than eight deep; so what is recursion goes no deeper at its first round. */
+    /** Not more than eight calls are open, none of them twice: a recursion's first round is in. */
     private static void depth(Map<String, String> bodies) {
         Map<String, List<String>> calls = new TreeMap<>();
         for (Map.Entry<String, String> one : bodies.entrySet()) {
